@@ -342,12 +342,11 @@ public final class ModelTest {
             int n = left();
             State pulled = s.copy();
             pullAll(pulled);
-            boolean[][] fine = new boolean[2][];
             int[] fewest = new int[n + 1];
             for (int from = n - 1; from >= 0; from--) {
-                fewest[from] = fewestFrom(pulled, from, from, pace, fewest);
+                fewest[from] = fewestFrom(pulled, from, pace, fewest);
             }
-            int best = fewestFrom(s, 0, 0, pace, fewest);
+            int best = fewestFrom(s, 0, pace, fewest);
             if (best >= 1000) return null;
             int first = NONE;
             State t = s.copy();
@@ -359,7 +358,7 @@ public final class ModelTest {
             return new int[] {best, first};
         }
 
-        int fewestFrom(State start, int from, int firstMile, int pace, int[] fewest) {
+        int fewestFrom(State start, int from, int pace, int[] fewest) {
             State t = start.copy();
             int best = 1000;
             for (int k = from; k < left(); k++) {

@@ -146,7 +146,11 @@ public final class PromisesTest {
         due("3: nothing to undo", x.undo(1), NOT);
         due("3: THE SEED stays", x.seed(0), 77);
         x.keep(1);
+        x.rain(1);
         due("3: empty text", x.trip(), 0);
+        due("3: nothing to undo", x.undo(1), NOT);
+        due("3: no AREA", x.told(1), 0);
+        due("3: no SECONDS of a STOP", x.told(2), 0);
         due("3: no TRIP", x.lift(0, 0, 0), NOT);
         due("3: no CORD", x.cord(0, 0), UNKNOWN);
         due("3: no WEIGHT", x.told(0), 0);
@@ -411,6 +415,17 @@ public final class PromisesTest {
         due("13: FULL", x.pick(), FULL);
         due("10: NOT first", x.stop(), NOT);
         due("12: NOT first", x.runs(0, 0), NOT);
+        due("10: 900000 is not above", atNineHundredThousand().stop(), 900900);
+        due("12: 900000 is not above", atNineHundredThousand().runs(0, 1), 0);
+        RoofMattress y = atNineHundredThousand();
+        y.drive(1, 10);
+        due("13: 900000 is not above", y.pick(), 1);
+    }
+
+    static RoofMattress atNineHundredThousand() {
+        RoofMattress x = on("l1 40 900;c0 0 0;r1 10 30;");
+        for (int i = 1; i <= 1000; i++) x.stop();
+        return x;
     }
 
     static void p14Drift() {
@@ -610,6 +625,7 @@ public final class PromisesTest {
         // 3600 / 66 = 54 from 66 on; 3600 / 65 = 55
         due("20: of like ones the least", on("l99 1 0;r1 66 0;").soonest(0), 66);
         due("20: 3600 / 68 = 3600 / 69 = 52", on("l99 1 0;r1 69 0;").soonest(0), 68);
+        due("20: 70 too", on("l99 1 0;r1 70 0;").soonest(0), 70);
         due("20: what", x.soonest(2), OUTSIDE);
         due("20: what", x.soonest(-1), OUTSIDE);
         due("20: LOST", lostOne().soonest(0), NOT);
@@ -695,6 +711,10 @@ public final class PromisesTest {
         RoofMattress x = on(SMALL);
         due("25: how much", x.see(0, 10, 0, true), 1);
         due("25: how much", x.see(1, 70, 30, false), 2);
+        // 40 and 20 together: 36: 24 against 25, 12 against 5 and the CORD
+        RoofMattress y = on(SMALL);
+        y.see(1, 40, 20, true);
+        due("25: the GUST counts", y.was(1, 1), 7);
         due("25: UNKNOWN first", x.see(2, 9, 0, true), UNKNOWN);
         due("25: UNKNOWN", x.see(-1, 10, 0, true), UNKNOWN);
         for (int p : new int[] {9, 71, LEAST, MOST}) due("25: pace", x.see(0, p, 0, true), OUTSIDE);
@@ -765,6 +785,7 @@ public final class PromisesTest {
         // 26: 17: one is left, 11
         due("27: one is left", y.was(0, 0), 1);
         due("27: NONE", y.tries(0, 0), NONE);
+        due("26: the least is the most", y.was(0, 1), 11);
         y.see(0, 50, 0, false);
         due("27: none is left", y.tries(0, 0), NONE);
         due("27: none parts them", on("l99 1 0;c0 9 0;").tries(0, 0), NONE);
