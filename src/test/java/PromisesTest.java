@@ -1,13 +1,5 @@
 /** Each promise by itself, with numbers reckoned by hand: ordinary inputs, the edges that the document names, wrong inputs. */
-public final class PromisesTest {
-    static final int NONE = -1, UNKNOWN = -1000000001, OUTSIDE = -1000000002, NOT = -1000000003, FULL = -1000000004;
-    static final int LEAST = Integer.MIN_VALUE, MOST = Integer.MAX_VALUE;
-
-    /** LIFT is v * v / 100; HOLD 25 and 13, behind MILES 23 and 9, 21 and 5, 19 and 5, 17 and 5. */
-    static final String SMALL = "l10 4 7;c0 20 1;c2 8 2;r2 20 0;r3 40 5;";
-
-    static int asked = 0, wrong = 0;
-
+public final class PromisesTest extends Due {
     public static void main(String[] args) {
         p01NewObject();
         p02Feed();
@@ -44,42 +36,7 @@ public final class PromisesTest {
         p31Seed();
         p32Keep();
         p33GoBack();
-        System.out.println("PromisesTest: " + (asked - wrong) + " answers of " + asked + " are as due");
-        if (wrong > 0) System.exit(1);
-    }
-
-    static void due(String call, int got, int want) {
-        asked++;
-        if (got != want) {
-            wrong++;
-            System.out.println(call + " answered " + got + ", due is " + want);
-        }
-    }
-
-    static int feedAll(RoofMattress x, String text) {
-        int n = 0;
-        for (char ch : text.toCharArray()) n = x.feed(ch);
-        return n;
-    }
-
-    static int tell(RoofMattress x, String text) {
-        feedAll(x, text);
-        return x.trip();
-    }
-
-    static RoofMattress on(String text) {
-        RoofMattress x = new RoofMattress();
-        int miles = tell(x, text);
-        if (miles < 0) due("trip() of " + text, miles, 0);
-        return x;
-    }
-
-    /** LOST behind 2 MILES: 13 and 7 against 21 and 5. */
-    static RoofMattress lostOne() {
-        RoofMattress x = on(SMALL);
-        due("drive(5, 70) till LOST", x.drive(5, 70), 2);
-        due("told(11) LOST", x.told(11), 1);
-        return x;
+        report("PromisesTest");
     }
 
     static void p01NewObject() {
