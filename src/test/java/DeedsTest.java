@@ -31,6 +31,7 @@ public final class DeedsTest extends Due {
         driftIsAsDrive();
         driftDrawsAheadOfEachMile();
         undoneAreTheLatest();
+        undoneHarms();
         thirtyAreKeptAtMost();
         undoneAcrossTheWrap();
         undoneSinceTextOrImage();
@@ -466,6 +467,23 @@ public final class DeedsTest extends Due {
         due("9: and driven again", y.drive(1, 10), 1);
         due("15: the new one first", y.undo(1), 1);
         due("15: THE SEED stays", seedBehindUndo(), 1406932606);
+    }
+
+    /** HARMS and LOST are two numbers, and both come back. */
+    static void undoneHarms() {
+        RoofMattress x = lostOne();
+        x.pick();
+        due("9: LOST again", x.drive(3, 40), 2);
+        due("5: HARMS", x.told(10), 2);
+        x.rain(1);
+        x.undo(1);
+        due("15: HARMS", x.told(10), 2);
+        due("15: LOST", x.told(11), 1);
+        x.keep(0);
+        x.pick();
+        x.goBack(0);
+        due("33: HARMS", x.told(10), 2);
+        due("33: LOST", x.told(11), 1);
     }
 
     static RoofMattress thirtyDeeds() {

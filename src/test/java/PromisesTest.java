@@ -15,7 +15,6 @@ public final class PromisesTest extends Due {
         p11Rain();
         p12Runs();
         p13Pick();
-        fullOfSeconds();
         p14Drift();
         p15Undo();
         p16Highest();
@@ -357,32 +356,6 @@ public final class PromisesTest extends Due {
         due("13: LOST again", x.drive(9, 40), 2);
         due("13: HARMS", x.pick(), 2);
         due("13: no TRIP", new RoofMattress().pick(), NOT);
-    }
-
-    /** So many SECONDS take more calls than an object is promised for; the bound stands all the same. */
-    static void fullOfSeconds() {
-        RoofMattress x = on("l1 40 999;c0 0 0;r1 10 30;");
-        for (int i = 1; i <= 900; i++) x.stop();
-        due("10: below", x.told(9), 899100);
-        due("10: 900099", x.stop(), 900099);
-        due("10: FULL", x.stop(), FULL);
-        due("12: FULL", x.runs(0, 0), FULL);
-        due("12: OUTSIDE first", x.runs(0, 4), OUTSIDE);
-        due("9: never FULL", x.drive(1, 10), 0);
-        due("13: FULL", x.pick(), FULL);
-        due("10: NOT first", x.stop(), NOT);
-        due("12: NOT first", x.runs(0, 0), NOT);
-        due("10: 900000 is not above", atNineHundredThousand().stop(), 900900);
-        due("12: 900000 is not above", atNineHundredThousand().runs(0, 1), 0);
-        RoofMattress y = atNineHundredThousand();
-        y.drive(1, 10);
-        due("13: 900000 is not above", y.pick(), 1);
-    }
-
-    static RoofMattress atNineHundredThousand() {
-        RoofMattress x = on("l1 40 900;c0 0 0;r1 10 30;");
-        for (int i = 1; i <= 1000; i++) x.stop();
-        return x;
     }
 
     static void p14Drift() {

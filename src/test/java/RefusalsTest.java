@@ -20,6 +20,7 @@ public final class RefusalsTest extends Due {
             for (Call call : asked()) askedInVain(scene, call);
         }
         for (Call call : aboveNineHundredThousand()) refusedAboveNineHundredThousand(call);
+        nineHundredThousandIsNotAbove();
         lastCallOfAll();
         report("RefusalsTest");
     }
@@ -415,11 +416,30 @@ public final class RefusalsTest extends Due {
 
     // ---- above 900000 SECONDS, which takes more calls than an object is promised for
 
-    static RoofMattress rich(boolean lost) {
-        RoofMattress x = on("l1 40 999;c0 9 1;r1 10 30;");
-        for (int i = 1; i <= 901; i++) x.stop();
+    /** 919 times 979 and a MILE of 300 SECONDS are 900001; on ROAD 1 it is LOST at once. */
+    static RoofMattress late(boolean lost) {
+        RoofMattress x = on("l50 40 979;c0 9 1;r1 12 0;r1 10 30;");
+        for (int i = 1; i <= 919; i++) x.stop();
+        due("9: a MILE", x.drive(1, 12), 1);
+        due("5: SECONDS", x.told(9), 900001);
         if (lost) due("9: never FULL", x.drive(1, 10), 0);
         return x;
+    }
+
+    static void nineHundredThousandIsNotAbove() {
+        RoofMattress x = on("l1 40 900;c0 0 0;r1 10 30;");
+        for (int i = 1; i < 1000; i++) x.stop();
+        due("10: 900000", x.stop(), 900000);
+        x.keep(0);
+        due("10: 900000 is not above", x.stop(), 900900);
+        due("10: 900900 is", x.stop(), FULL);
+        x.goBack(0);
+        due("12: 900000 is not above", x.runs(0, 1), 0);
+        due("12: 900900 is", x.runs(0, 1), FULL);
+        x.goBack(0);
+        x.drive(1, 10);
+        due("13: 900000 is not above", x.pick(), 1);
+        due("5: SECONDS", x.told(9), 901800);
     }
 
     static List<Call> aboveNineHundredThousand() {
@@ -438,9 +458,9 @@ public final class RefusalsTest extends Due {
 
     static void refusedAboveNineHundredThousand(Call call) {
         boolean lost = call.name().startsWith("LOST");
-        RoofMattress one = rich(lost);
+        RoofMattress one = late(lost);
         due("above 900000: " + call.name(), call.run().applyAsInt(one), call.due());
-        due("above 900000: nothing changes by " + call.name(), prints(one).equals(prints(rich(lost))) ? 1 : 0, 1);
+        due("above 900000: nothing changes by " + call.name(), prints(one).equals(prints(late(lost))) ? 1 : 0, 1);
     }
 
     /** The document's limit: the 512th call still answers as promised. */

@@ -14,7 +14,9 @@ public final class TriedTest extends Due {
         stopsAsLateAsCanBe();
         stopsNoneOrCannotBe();
         stopsOfMilesLeft();
+        stopsAsItIsNow();
         soonestLeastOfLikeOnes();
+        soonestAtEachPace();
         soonestWeighsStops();
         soonestByNone();
         whereGreatestAndFirst();
@@ -26,6 +28,7 @@ public final class TriedTest extends Due {
         knotsCutEach();
         seenSixAtMost();
         wasAllThatFits();
+        wasByEachWay();
         wasNone();
         tryPartsBest();
         tryNone();
@@ -214,6 +217,21 @@ public final class TriedTest extends Due {
         stops("what is behind one does not count", y, 70, 0, NONE);
     }
 
+    static void stopsAsItIsNow() {
+        // over the FRONT the BACK has 5: 7 on ROAD 1 is too much, with RAIN it is not
+        RoofMattress x = on(SMALL);
+        x.runs(1, 0);
+        stops("as CORDS run now", x, 70, -2, -2);
+        x.rain(4);
+        stops("by WEIGHT now", x, 70, 0, NONE);
+        // behind 2 MILES 16 and 4: a STOP is needed where none would be when just PULLED
+        RoofMattress y = on("l10 4 7;c0 20 1;c2 8 2;r2 20 0;r2 40 5;");
+        y.drive(2, 20);
+        stops("as TIGHT as now", y, 70, 1, 0);
+        y.stop();
+        stops("when just PULLED", y, 70, 0, NONE);
+    }
+
     // ---- SOONEST
 
     static void soonest(String what, RoofMattress x, int pace, int seconds) {
@@ -235,6 +253,15 @@ public final class TriedTest extends Due {
         soonest("two ROADS", on("l99 1 0;r1 20 0;r2 40 0;"), 40, 360);
         // FULL of MILES: 120 at 51
         soonest("120 MILES", on("l99 1 9;r20 70 0;r20 70 0;r20 70 0;r20 70 0;r20 70 0;r20 70 0;"), 70, 6120);
+    }
+
+    static void soonestAtEachPace() {
+        for (int pace = 10; pace <= 70; pace++) {
+            int seconds = 3600 / pace;
+            int least = pace;
+            while (least > 10 && 3600 / (least - 1) == seconds) least--;
+            soonest("ROAD of " + pace, on("l99 1 0;r3 " + pace + " 0;"), least, 3 * seconds);
+        }
     }
 
     static void soonestWeighsStops() {
@@ -281,6 +308,10 @@ public final class TriedTest extends Due {
         ways("CORD by CORD the lesser way", on("l2 8 0;c1 10 0;c1 10 0;"), 0, 30, 0, 1);
         // over the middle and along are like ones: 16 and 16 bear 25, at 36
         ways("1 ahead of 3", on("l2 8 0;c3 30 0;"), 0, 36, 1);
+        ways("8 over the BACK, 20 over the FRONT", on("l10 4 7;c0 8 2;c2 20 1;"), 0, 62, 2, 0);
+        ways("the second of three", on("l10 4 7;c3 0 0;c0 8 2;c2 20 1;"), 0, 62, 0, 2, 0);
+        ways("the third of four", on("l10 4 7;c3 0 0;c2 20 1;c0 8 2;c3 0 0;"), 0, 62, 0, 0, 2, 0);
+        ways("the first of four", on("l10 4 7;c3 8 0;c3 0 0;c3 0 0;c3 20 0;"), 0, 62, 2, 0, 0, 0);
         ways("no CORDS", on("l99 1 0;"), 0, 70);
         ways("a CORD of 0", on("l2 8 0;c2 0 0;"), 0, 12, 0);
     }
@@ -439,6 +470,46 @@ public final class TriedTest extends Due {
         was("near the most", w, 0, 5, 95, 99);
         w.see(0, 39, 0, true);
         was("beyond the most", w, 0, 0, NONE, NONE);
+    }
+
+    static void wasByEachWay() {
+        for (int way : new int[] {1, 3}) {
+            // 50: 16 and 9 against 5 with the half and 5 with the rest; 51: 17 and 9
+            RoofMattress x = on("l10 4 0;c" + way + " 0 0;");
+            x.see(0, 50, 0, true);
+            was("the FRONT by halves, way " + way, x, 0, 78, 22, 99);
+            x.see(0, 51, 0, false);
+            was("the FRONT by halves, way " + way, x, 0, 2, 22, 23);
+            due("27: 22 and 23 have the same half", x.tries(0, 0), NONE);
+            // 30: 6 and 3 against 9 with the half and 1 with the rest; 32: 6 and 4
+            RoofMattress y = on("l1 4 0;c" + way + " 0 0;c0 9 0;");
+            y.see(0, 30, 0, true);
+            was("the BACK by the rest, way " + way, y, 0, 97, 3, 99);
+            y.see(0, 32, 0, false);
+            was("the BACK by the rest, way " + way, y, 0, 2, 3, 4);
+        }
+        // over the BACK: 60: 24 and 12 against 25 and 5 with the CORD; 62: 25 and 13; 63: 26 at the FRONT
+        RoofMattress z = on(SMALL);
+        z.see(1, 60, 0, true);
+        was("over the BACK", z, 1, 93, 7, 99);
+        z.see(1, 62, 0, false);
+        was("one is left", z, 1, 1, 7, 7);
+        due("27: one is not parted", z.tries(1, 0), NONE);
+        z.tear();
+        z.see(1, 63, 0, false);
+        was("over the BACK nothing for the FRONT", z, 1, 100, 0, 99);
+        z.see(1, 63, 0, true);
+        was("over the BACK nothing for the FRONT", z, 1, 0, NONE, NONE);
+        // all others as now, the CORD's own way as now; how TIGHT it is now is nothing to it
+        RoofMattress w = on(SMALL);
+        w.see(1, 60, 0, true);
+        w.drive(1, 20);
+        // 23 at the FRONT now: 24 is too much
+        was("all others as now", w, 1, 0, NONE, NONE);
+        w.runs(0, 0);
+        was("CORD 0 PULLED", w, 1, 93, 7, 99);
+        w.rain(2);
+        was("WEIGHT as now", w, 1, 94, 6, 99);
     }
 
     static void wasNone() {
