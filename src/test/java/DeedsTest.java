@@ -10,6 +10,7 @@ public final class DeedsTest extends Due {
         halvesOfCordsAreCutEach();
         holdsIfNoMoreAtBoth();
         liftsOwnBounds();
+        holdsAsLiftAndHoldSay();
         theRoadsPaceIfThatIsLess();
         secondsOfAMileAreCut();
         theGustOfThisRoad();
@@ -32,6 +33,7 @@ public final class DeedsTest extends Due {
         driftDrawsAheadOfEachMile();
         undoneAreTheLatest();
         undoneHarms();
+        undoneIsSectionTwoAlone();
         thirtyAreKeptAtMost();
         undoneAcrossTheWrap();
         undoneSinceTextOrImage();
@@ -121,6 +123,22 @@ public final class DeedsTest extends Due {
         due("8: OUTSIDE ahead of NOT", new RoofMattress().lift(100, 0, 0), OUTSIDE);
         due("8: NOT: no TRIP", new RoofMattress().lift(99, 30, 4), NOT);
         due("8: by a load alone", on("l10 4 0;").lift(10, 0, 4), 1);
+    }
+
+    /** Whether it HOLDS is told by the four numbers ahead of it, at every PACE and in every GUST. */
+    static void holdsAsLiftAndHoldSay() {
+        for (int gust = 0; gust <= 30; gust++) {
+            for (int miles = 0; miles <= 2; miles++) {
+                RoofMattress x = on("l10 4 7;c0 20 1;c2 8 2;c3 9 3;r3 10 0;");
+                if (miles > 0) x.drive(miles, 10);
+                int front = x.lift(0, 0, 2);
+                int back = x.lift(0, 0, 3);
+                for (int pace = 0; pace <= 99; pace++) {
+                    boolean holds = x.lift(pace, gust, 0) <= front && x.lift(pace, gust, 1) <= back;
+                    due("8: HOLDS at " + pace + " in " + gust + " behind " + miles, x.lift(pace, gust, 4), holds ? 1 : 0);
+                }
+            }
+        }
     }
 
     // ---- a MILE
@@ -430,6 +448,14 @@ public final class DeedsTest extends Due {
         z.seed(12345);
         due("14: 7 more", z.drift(1, 55), 1);
         due("9: 0 more for the next", z.drive(1, 62), 1);
+        // more than that of the ROAD on which one is: 0 and 7 and 55, then 30 and 7 and 25
+        for (int pace : new int[] {25, 26}) {
+            RoofMattress two = on("l10 4 7;c0 20 0;c2 8 0;r1 70 0;r1 70 30;");
+            two.seed(12345);
+            due("14: 7 more on ROAD 0", two.drift(1, 55), 1);
+            two.seed(12345);
+            due("14: 7 more on ROAD 1 at " + pace, two.drift(1, pace), pace == 25 ? 1 : 0);
+        }
         // as many as there are, not one DRAW more
         RoofMattress end = on("l10 4 7;c0 20 0;c2 8 0;r2 70 0;");
         due("14: two of 30", end.drift(30, 10), 2);
@@ -484,6 +510,25 @@ public final class DeedsTest extends Due {
         x.goBack(0);
         due("33: HARMS", x.told(10), 2);
         due("33: LOST", x.told(11), 1);
+    }
+
+    static void undoneIsSectionTwoAlone() {
+        RoofMattress x = lostOne();
+        tell(x, "x");
+        tell(x, "l1x");
+        x.keep(1);
+        x.rain(5);
+        x.see(0, 50, 0, true);
+        x.see(1, 50, 0, true);
+        x.write(0, 16);
+        feedAll(x, "l10");
+        x.seed(8);
+        due("15: rain() undone", x.undo(1), 2);
+        told("15: TEXT, SEEN, BOOK stay", x, 10, 4, 7, 2, 2, 3, 2, 3, 1, 360, 1, 1, 2, 1, 0);
+        due("15: fault() stays", x.fault(), 2);
+        due("15: THE SEED stays", x.seed(0), 8);
+        due("15: IMAGES stay", x.goBack(1), 1);
+        due("15: IMAGES stay as they were", x.goBack(0), NOT);
     }
 
     static RoofMattress thirtyDeeds() {

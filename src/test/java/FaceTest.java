@@ -21,13 +21,18 @@ public final class FaceTest {
     static final String[] RULED_OUT = {
         "\\bthrow", "\\btry\\b", "\\bcatch\\b", "\\bsynchronized\\b", "\\bassert\\b", "->", "::", "\\bimport\\b",
         "\\bpackage\\b", "\\bstatic\\s*\\{", "Exact\\b", "\\bprotected\\b", "\\bRandom\\b", "\\bThread\\b",
-        "\\bnanoTime\\b", "\\bcurrentTimeMillis\\b", "\\bhashCode\\b", "\\btoString\\b", "\\bvar\\b"};
+        "\\bnanoTime\\b", "\\bcurrentTimeMillis\\b", "\\bhashCode\\b", "\\btoString\\b", "\\bvar\\b", "\\bextends\\b",
+        "while \\(true\\)", "for \\(;;\\)", "\\bdouble\\b", "\\bfloat\\b", "@"};
+    static final Set<String> LIBRARY = Set.of("Math.max", "Math.min", "Math.floorMod", "System.arraycopy");
     static int wrong = 0;
 
     public static void main(String[] args) throws Exception {
         constants();
         members();
+        classesInside();
         text();
+        madeInConstructorsAlone();
+        shortMethods();
         System.out.println(wrong == 0 ? "FaceTest: the face is as due" : "FaceTest: " + wrong + " faults");
         if (wrong > 0) System.exit(1);
     }
@@ -70,19 +75,71 @@ public final class FaceTest {
             check(constant ? Modifier.isPublic(f.getModifiers()) : Modifier.isPrivate(f.getModifiers()), "field " + f.getName());
             check(!Modifier.isStatic(f.getModifiers()) || Modifier.isFinal(f.getModifiers()), "static field " + f.getName());
         }
-        check(c.getDeclaredClasses().length <= 12, "classes");
-        for (Class<?> in : c.getDeclaredClasses()) {
+    }
+
+    static void classesInside() {
+        Class<?>[] inside = RoofMattress.class.getDeclaredClasses();
+        check(inside.length <= 11, "classes");
+        fields(RoofMattress.class);
+        for (Class<?> in : inside) {
             check(Modifier.isStatic(in.getModifiers()) && !Modifier.isPublic(in.getModifiers()), "class " + in.getName());
-            for (Method m : in.getDeclaredMethods()) check(m.getParameterCount() <= 7, "parameters of " + m.getName());
+            check(in.getDeclaredClasses().length == 0, "a class inside " + in.getName());
+            for (Method m : in.getDeclaredMethods()) {
+                check(m.getParameterCount() <= 7, "parameters of " + m.getName());
+                for (String s : FACE) check(!m.getName().equals(s.split(" ")[0]), in.getName() + " has a method " + s);
+            }
+            fields(in);
         }
     }
 
-    static void text() throws Exception {
+    /** Some twenty beside constants; what is static is final, a number or numbers written out. */
+    static void fields(Class<?> c) {
+        int own = 0;
+        for (Field f : c.getDeclaredFields()) {
+            Class<?> type = f.getType().isArray() ? f.getType().getComponentType() : f.getType();
+            boolean ours = type.getEnclosingClass() == RoofMattress.class;
+            check(type == int.class || type == boolean.class || ours, "type of " + c.getName() + "." + f.getName());
+            if (!Modifier.isStatic(f.getModifiers())) {
+                own++;
+                continue;
+            }
+            check(Modifier.isFinal(f.getModifiers()) && type == int.class, "static " + c.getName() + "." + f.getName());
+        }
+        check(own <= 20, own + " fields of " + c.getName());
+    }
+
+    /** The class without its comments. */
+    static String code() throws Exception {
         String all = Files.readString(Path.of("src/main/java/RoofMattress.java"), StandardCharsets.US_ASCII);
-        String code = Pattern.compile("/\\*.*?\\*/|//[^\\n]*", Pattern.DOTALL).matcher(all).replaceAll("");
-        for (String s : RULED_OUT) {
-            Matcher m = Pattern.compile(s).matcher(code);
-            check(!m.find(), "LANGUAGE.md rules out " + s);
+        return Pattern.compile("/\\*.*?\\*/|//[^\\n]*", Pattern.DOTALL).matcher(all).replaceAll("");
+    }
+
+    static void text() throws Exception {
+        String code = code();
+        for (String s : RULED_OUT) check(!Pattern.compile(s).matcher(code).find(), "LANGUAGE.md rules out " + s);
+        Matcher m = Pattern.compile("\\b(?:Math|System|Integer|Long|Arrays|String|List)\\.\\w+").matcher(code);
+        while (m.find()) check(LIBRARY.contains(m.group()), "the library's " + m.group());
+    }
+
+    /** All calls of a run live in one room: no call makes anything, fields alone do. */
+    static void madeInConstructorsAlone() throws Exception {
+        Pattern field = Pattern.compile("\\s*(?:private )?final [\\w\\[\\]]+ \\w+ = new [^;]+;");
+        for (String line : code().split("\n")) {
+            if (Pattern.compile("\\bnew\\b|\\.clone\\(|copyOf").matcher(line).find()) {
+                check(field.matcher(line).matches(), "made in a call: " + line);
+            }
+        }
+    }
+
+    /** Some sixty lines at most, from a head to the brace below it. */
+    static void shortMethods() throws Exception {
+        String[] lines = code().split("\n");
+        for (int i = 0; i < lines.length; i++) {
+            Matcher head = Pattern.compile("( +)[\\w ]+\\([\\w, \\[\\]]*\\) \\{").matcher(lines[i]);
+            if (!head.matches()) continue;
+            int end = i + 1;
+            while (end < lines.length && !lines[end].equals(head.group(1) + "}")) end++;
+            check(end - i <= 60, "too long: " + lines[i]);
         }
     }
 }

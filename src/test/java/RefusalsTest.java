@@ -422,6 +422,8 @@ public final class RefusalsTest extends Due {
         for (int i = 1; i <= 919; i++) x.stop();
         due("9: a MILE", x.drive(1, 12), 1);
         due("5: SECONDS", x.told(9), 900001);
+        due("11: never FULL", x.rain(1), 51);
+        due("15: never FULL", x.undo(1), 1);
         if (lost) due("9: never FULL", x.drive(1, 10), 0);
         return x;
     }

@@ -21,7 +21,9 @@ public final class TextTest extends Due {
         emptyTextIsNoTrip();
         blanksAloneAreNoTrip();
         textIsEmptyBehindATrip();
+        nothingOfTheFormerTextIsRead();
         aTripBeginsAnew();
+        fewerCordsAndRoadsThanBefore();
         aFaultLeavesAllAsItWas();
         milesOfAllRoads();
         faultIsOfTheLatestTrip();
@@ -321,6 +323,29 @@ public final class TextTest extends Due {
         due("2: from 1 on", x.feed('l'), 1);
     }
 
+    /** A text ends at its length, whatever stood there in a longer one before it. */
+    static void nothingOfTheFormerTextIsRead() {
+        String former = "l1 1 0;r5 10 0;c0 1 1;";
+        int[][] ends = {{1, 1}, {2, 2}, {5, 5}, {6, 6}, {8, 8}, {12, 12}, {13, 13}, {14, 14}, {21, 21}};
+        for (int[] end : ends) {
+            RoofMattress x = on(former);
+            due("3: the first " + end[0] + " letters", tell(x, former.substring(0, end[0])), -11);
+            due("4: the end", x.fault(), end[1]);
+        }
+        for (int n = 1; n <= former.length(); n++) {
+            RoofMattress x = on(former);
+            RoofMattress anew = new RoofMattress();
+            String text = former.substring(0, n);
+            due("3: '" + text + "' as on a new object", tell(x, text), tell(anew, text));
+            due("4: '" + text + "' as on a new object", x.fault(), anew.fault());
+        }
+        RoofMattress y = on("l9 9 9;r5 10 0;");
+        due("3: blanks where figures were", tell(y, "l9 9   "), -11);
+        due("4: the end", y.fault(), 7);
+        due("3: a FAULT, then the text itself", tell(y, "l1 1 0;"), 0);
+        due("4: NONE", y.fault(), NONE);
+    }
+
     static void aTripBeginsAnew() {
         RoofMattress x = lostOne();
         x.rain(5);
@@ -343,6 +368,31 @@ public final class TextTest extends Due {
         due("3: THE SEED stays", x.seed(0), 77);
         due("26: nothing SEEN", x.was(0, 0), 100);
         due("29: no BOOK", x.judge(), NONE);
+    }
+
+    /** What a former TRIP had more of holds nothing, lifts nothing and is no MILE. */
+    static void fewerCordsAndRoadsThanBefore() {
+        RoofMattress x = on("l99 1 9;c0 99 9;c1 99 9;c2 99 9;c3 99 9;r20 70 30;r20 70 30;r20 70 30;");
+        x.drive(3, 10);
+        x.runs(3, 0);
+        due("3: one CORD, one ROAD", tell(x, "l2 4 0;c0 3 0;r2 10 0;"), 2);
+        due("2: HOLD at the FRONT", x.lift(0, 0, 2), 1 + 3);
+        due("2: HOLD at the BACK", x.lift(0, 0, 3), 1);
+        // 1 at the BACK bears 3 (2 and 1): up to 19
+        due("16: HIGHEST", x.highest(0), 19);
+        due("18: FAR", x.far(20, 0), 0);
+        due("20: SECONDS", x.soonest(1), 720);
+        // over the middle 2 and 3 bear 4 (2 and 2), at 22
+        due("21: WHERE", x.where(0, NONE), 22);
+        due("21: the way", x.where(0, 0), 1);
+        due("21: no second CORD", x.where(0, 1), UNKNOWN);
+        due("24: KNOTS of one CORD", x.knots(1, 50), 500000000);
+        due("9: two MILES", x.drive(30, 10), 2);
+        due("3: no CORD at all", tell(x, "l2 4 0;"), 0);
+        due("2: HOLD at the FRONT", x.lift(0, 0, 2), 1);
+        due("2: HOLD at the BACK", x.lift(0, 0, 3), 1);
+        due("21: WHERE without CORDS", x.where(0, NONE), 17);
+        due("24: KNOTS of none", x.knots(1, 50), 1000000000);
     }
 
     static void aFaultLeavesAllAsItWas() {

@@ -15,6 +15,7 @@ public final class TriedTest extends Due {
         stopsNoneOrCannotBe();
         stopsOfMilesLeft();
         stopsAsItIsNow();
+        stopsByWeightNow();
         soonestLeastOfLikeOnes();
         soonestAtEachPace();
         soonestWeighsStops();
@@ -29,14 +30,17 @@ public final class TriedTest extends Due {
         seenSixAtMost();
         wasAllThatFits();
         wasByEachWay();
+        wasByTheWayNow();
         wasNone();
         tryPartsBest();
         tryNone();
         bookTwentyAtMost();
         judgeTheFirst();
         tearBoth();
+        lostIsNoHindrance();
         seedGoesRound();
         imagesKeepSectionTwoAndTheSeed();
+        imagesLeaveAllElse();
         imagesAreTwo();
         report("TriedTest");
     }
@@ -230,6 +234,21 @@ public final class TriedTest extends Due {
         stops("as TIGHT as now", y, 70, 1, 0);
         y.stop();
         stops("when just PULLED", y, 70, 0, NONE);
+    }
+
+    /** RAIN stays in it behind a STOP: 26 and 13 at 63 against 25 and 13 as told, 26 and 14 as it is. */
+    static void stopsByWeightNow() {
+        RoofMattress x = on("l10 4 7;c0 20 1;c2 8 2;r2 20 0;r1 63 0;");
+        stops("as told", x, 63, -2, -2);
+        x.rain(2);
+        stops("in RAIN", x, 63, 1, 2);
+        stops("in RAIN", x, 70, 1, 2);
+        // at 43 no STOP: 360 and 83; at 63 one: 360 and 57 and 7
+        soonest("in RAIN", x, 63, 424);
+        due("9: and so it is", x.drive(2, 20), 2);
+        due("10: a STOP", x.stop(), 367);
+        due("9: and so it is", x.drive(1, 63), 1);
+        due("5: SECONDS", x.told(9), 424);
     }
 
     // ---- SOONEST
@@ -512,6 +531,23 @@ public final class TriedTest extends Due {
         was("WEIGHT as now", w, 1, 94, 6, 99);
     }
 
+    static void wasByTheWayNow() {
+        RoofMattress x = on(SMALL);
+        x.see(1, 60, 0, true);
+        was("over the BACK as told", x, 1, 93, 7, 99);
+        x.runs(1, 0);
+        // 24 and 12 against 25 with the CORD, and 5
+        was("over the FRONT now", x, 1, 0, NONE, NONE);
+        x.runs(1, 1);
+        was("over the middle now: the rest is 7 from 13 on", x, 1, 87, 13, 99);
+        // 61: 37: 24 and 13: the rest is 8 from 15 on
+        x.see(1, 61, 0, false);
+        was("over the middle now", x, 1, 2, 13, 14);
+        due("27: 13 and 14 have the same rest, and the FRONT has enough by both", x.tries(1, 0), NONE);
+        x.undo(2);
+        was("over the BACK again", x, 1, 1, 7, 7);
+    }
+
     static void wasNone() {
         RoofMattress x = on(SMALL);
         x.see(0, 62, 0, true);
@@ -637,6 +673,29 @@ public final class TriedTest extends Due {
         due("29: no BOOK", x.judge(), NONE);
     }
 
+    /** What names no NOT is answered when it is LOST, too: 5 and 16 at the FRONT, 5 and 0 at the BACK. */
+    static void lostIsNoHindrance() {
+        RoofMattress x = lostOne();
+        due("25: see", x.see(0, 39, 0, true), 1);
+        was("10 and 5 at 39", x, 0, 95, 5, 99);
+        due("27: none parts them", x.tries(0, 0), NONE);
+        was("nothing SEEN", x, 1, 100, 0, 99);
+        // 56: 31: 20 and 11: 6 at the BACK; 55: 30: 20 and 10; 58: 33: 22 is too much at the FRONT
+        due("27: tries", x.tries(1, 0), 56);
+        due("28: write", x.write(0, 16), 1);
+        due("29: judge", x.judge(), NONE);
+        due("28: write", x.write(1, 8), 2);
+        due("29: judge", x.judge(), 1);
+        due("30: tear", x.tear(), 3);
+        due("22: hand", x.hand(99, 0), 0);
+        due("24: knots", x.knots(1, 50), 250000000);
+        due("23: van", x.van(0, 1, 100), 1);
+        due("31: seed", x.seed(6), 0);
+        due("32: keep", x.keep(0), 1);
+        due("33: goBack", x.goBack(0), 1);
+        due("5: LOST still", x.told(11), 1);
+    }
+
     // ---- THE SEED, IMAGES
 
     static void seedGoesRound() {
@@ -681,6 +740,29 @@ public final class TriedTest extends Due {
         due("33: once more", x.goBack(1), 1);
         due("33: LOST", x.told(11), 1);
         due("33: THE SEED", x.seed(0), 50);
+    }
+
+    static void imagesLeaveAllElse() {
+        RoofMattress x = on(SMALL);
+        tell(x, "l1x");
+        x.seed(50);
+        x.see(0, 50, 0, true);
+        x.write(0, 20);
+        x.write(1, 8);
+        feedAll(x, "l10 4");
+        x.keep(0);
+        told("32: TEXT, SEEN, BOOK stay", x, 10, 4, 7, 2, 2, 5, 0, 5, 0, 0, 0, 0, 1, 2, 0);
+        due("32: fault() stays", x.fault(), 2);
+        due("32: THE SEED stays", x.seed(51), 50);
+        x.feed(' ');
+        x.see(0, 50, 0, true);
+        x.write(0, 20);
+        x.goBack(0);
+        told("33: TEXT, SEEN, BOOK stay as they are", x, 10, 4, 7, 2, 2, 6, 0, 5, 0, 0, 0, 0, 2, 3, 0);
+        due("33: fault() stays", x.fault(), 2);
+        due("33: THE SEED is that of the IMAGE", x.seed(0), 50);
+        feedAll(x, "7;");
+        due("33: and THE TEXT goes on", x.trip(), 0);
     }
 
     static void imagesAreTwo() {
