@@ -777,14 +777,18 @@ public final class TriedTest extends Due {
         }
         due("33: UNKNOWN ahead of NOT", new RoofMattress().goBack(2), UNKNOWN);
         RoofMattress x = on(SMALL);
+        x.seed(6);
         x.keep(0);
         x.drive(1, 20);
+        x.seed(7);
         x.keep(1);
         x.drive(1, 20);
         x.goBack(0);
         due("33: IMAGE 0", x.told(6), 0);
+        due("33: THE SEED of IMAGE 0", x.seed(8), 6);
         x.goBack(1);
         due("33: IMAGE 1", x.told(6), 1);
+        due("33: THE SEED of IMAGE 1", x.seed(8), 7);
         x.keep(0);
         x.drive(1, 20);
         x.goBack(0);
